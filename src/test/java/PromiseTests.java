@@ -159,6 +159,11 @@ public final class PromiseTests {
         BorderPaints x = map(0, 1, 1);
         x.setBorder(0, 1, 1);
         x.setBorder(0, 2, 1);
+        due("6 new pair, no conflict", 0, x.forbid(1, 2, true));
+        due("6 new pair, gone again", 0, x.forbid(2, 1, false));
+        due("6 gone in both orders", 0, x.forbidden(1, 2) + x.forbidden(2, 1));
+        due("6 and the other way", 0, x.forbid(2, 1, true) + x.forbid(1, 2, false));
+        due("6 gone in both orders", 0, x.forbidden(1, 2) + x.forbidden(2, 1));
         due("6 forbid", 2, x.forbid(1, 0, true));
         due("6 both orders", NONE, x.forbid(0, 1, true));
         due("6 told", 1, x.forbidden(0, 1));
@@ -248,6 +253,10 @@ public final class PromiseTests {
         dueOfText(x, "1-1,3-0,", -108);
         due("8 errors change nothing", 9, x.border(0, 1));
         due("8 errors record nothing", states, x.count(10));
+        dueOfText(x, "1-1,0-1", BAD_VALUE);
+        dueOfText(x, "0-1:9,0-2", 2);
+        x.undo();
+        dueOfText(x, "0-1:9", 1);
         BorderPaints y = map(0, 1, 2);
         write(y, "0-1");
         y.undo();
@@ -337,6 +346,9 @@ public final class PromiseTests {
         due("10 same", BAD_VALUE, x.give(0, 0, 1, 1));
         due("10 same", BAD_VALUE, x.give(0, 1, 0, 1));
         due("10 same", BAD_VALUE, x.give(0, 1, 1, 1));
+        x.setBorder(0, 1, 99);
+        due("10 the longest", 0, x.give(0, 1, 2, 99));
+        x.setBorder(0, 1, 2);
         due("10 length", BAD_VALUE, x.give(0, 1, 2, 0));
         due("10 length", BAD_VALUE, x.give(0, 1, 2, 100));
         due("10 bad before not possible", BAD_VALUE, x.give(0, 1, 3, LOW));
@@ -388,6 +400,10 @@ public final class PromiseTests {
         x.fix(2, true);
         due("12 fixed in the chain", NOT_POSSIBLE, x.exchange(0, 1));
         due("12 alone", 1, x.exchange(3, 0));
+        x.fix(2, false);
+        x.fix(0, true);
+        due("12 fixed at the start of the chain", NOT_POSSIBLE, x.exchange(0, 1));
+        x.fix(0, false);
         x.fix(2, false);
         x.allow(2, 13);
         due("12 may not have", NOT_POSSIBLE, x.exchange(0, 1));
@@ -493,6 +509,10 @@ public final class PromiseTests {
             due("18 country 0, " + what, first[what], x.country(0, what));
             due("18 country 1, " + what, second[what], x.country(1, what));
         }
+        due("18 not the colours of both neighbours", 12, x.country(2, 8));
+        x.setBorder(1, 2, 0);
+        due("18 no length of a border that is gone", 30, x.country(2, 5));
+        x.setBorder(1, 2, 40);
         x.fix(1, true);
         x.allow(1, 5);
         due("18 fixed", 1, x.country(1, 3));
@@ -700,6 +720,7 @@ public final class PromiseTests {
         due("28 other colours", 4 + 16 + 32, x.chain(4, 0));
         due("28 alone", 64, x.chain(6, 1));
         due("28 none of that colour", 16, x.chain(4, 3));
+        due("28 without the first one", 128, x.chain(7, 2));
         due("28 own", BAD_VALUE, x.chain(0, 0));
         due("28 bad", BAD_VALUE, x.chain(0, 4));
         due("28 bad", BAD_VALUE, x.chain(0, LOW));
@@ -729,11 +750,94 @@ public final class PromiseTests {
         for (int what = 0; what <= 11; what++) {
             due("29 then count " + what, then[what], x.count(what));
         }
+        due("29 different colours", 4, map(0, 1, 2, 3, 3).count(8));
+        due("29 only one of colour 0", 2, map(0, 1, 1).count(8));
         int[] bad = {-1, 12, LOW, HIGH};
         for (int what : bad) {
             due("29 bad", BAD_VALUE, x.count(what));
         }
         due("29 few states", 1, map(0).count(10));
+    }
+
+    /** All that is told of the state. */
+    private static String told(BorderPaints x) {
+        StringBuilder s = new StringBuilder();
+        for (int what = 0; what <= 9; what++) {
+            s.append(x.count(what)).append(' ');
+        }
+        for (int c = 0; c < 8; c++) {
+            for (int what = 0; what <= 8; what++) {
+                s.append(x.country(c, what)).append(' ');
+            }
+        }
+        for (int place = 0; place < 28; place++) {
+            s.append(x.borderAt(place)).append(' ');
+        }
+        for (int i = 0; i < 16; i++) {
+            s.append(x.forbidden(i / 4, i % 4));
+        }
+        return s.toString();
+    }
+
+    private static int act(BorderPaints x, int number) {
+        switch (number) {
+            case 0: return x.addCountry(2, 2);
+            case 1: return x.paint(0, 3);
+            case 2: return x.allow(0, 7);
+            case 3: return x.fix(0, true);
+            case 4: return x.forbid(0, 1, true);
+            case 5: return x.setBorder(0, 2, 4);
+            case 6: return x.readBorders();
+            case 7: return x.join(0, 1);
+            case 8: return x.give(1, 0, 2, 2);
+            case 9: return x.repaint();
+            case 10: return x.exchange(2, 2);
+            default: return x.restore();
+        }
+    }
+
+    /** Calls that are no acts here: errors, NONE, and what is not described as an act. */
+    private static int noAct(BorderPaints x, int number) {
+        switch (number) {
+            case 0: return x.addCountry(4, 1);
+            case 1: return x.paint(0, 0);
+            case 2: return x.allow(0, 15);
+            case 3: return x.fix(0, false);
+            case 4: return x.forbid(0, 0, true);
+            case 5: return x.setBorder(0, 1, 5);
+            case 6: return x.readBorders();
+            case 7: return x.join(0, 2);
+            case 8: return x.give(1, 0, 2, 6);
+            case 9: return x.exchange(2, 1);
+            case 10: return x.restore();
+            case 11: return x.leastRepaint(1) + x.repainted(0) + x.wouldCost(0, 2) + x.freedom(0);
+            case 12: return x.repaints() + x.fewestColours() + x.chain(0, 1);
+            case 13: return x.type('0') + x.clearText();
+            default: return x.keep();
+        }
+    }
+
+    /** History: an act records just the state before it, all else records nothing. */
+    private static void history() {
+        for (int number = 0; number < 12 + 15; number++) {
+            BorderPaints x = map(0, 0, 1);
+            x.setBorder(0, 1, 5);
+            String earlier = told(x);
+            x.setBorder(1, 2, 5);
+            String before = told(x);
+            if (number < 12) {
+                x.keep();
+                write(x, "0-1:7");
+                due("act " + number + " is possible", 1, act(x, number) >= 0 ? 1 : 0);
+                due("act " + number + " changes", number == 11 ? 0 : 1, told(x).equals(before) ? 0 : 1);
+                x.undo();
+            } else {
+                noAct(x, number - 12);
+            }
+            due("history " + number + ": as it was", 1, told(x).equals(before) ? 1 : 0);
+            x.undo();
+            due("history " + number + ": one state earlier", 1, told(x).equals(earlier) ? 1 : 0);
+        }
     }
 
     public static void main(String[] args) {
@@ -767,6 +871,7 @@ public final class PromiseTests {
         p27FewestColours();
         p28Chain();
         p29Count();
+        history();
         System.out.println(checked + " answers looked at, " + wrong + " not as due");
         if (wrong != 0) {
             System.exit(1);
