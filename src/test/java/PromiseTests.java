@@ -257,6 +257,8 @@ public final class PromiseTests {
         dueOfText(x, "0-1:9,0-2", 2);
         x.undo();
         dueOfText(x, "0-1:9", 1);
+        dueOfText(x, "0-1,8-0", UNKNOWN);
+        dueOfText(x, "0-1:9", 1);
         BorderPaints y = map(0, 1, 2);
         write(y, "0-1");
         y.undo();
@@ -720,6 +722,7 @@ public final class PromiseTests {
         due("28 other colours", 4 + 16 + 32, x.chain(4, 0));
         due("28 alone", 64, x.chain(6, 1));
         due("28 none of that colour", 16, x.chain(4, 3));
+        due("28 a neighbour of neither colour", 2, x.chain(1, 2));
         due("28 without the first one", 128, x.chain(7, 2));
         due("28 own", BAD_VALUE, x.chain(0, 0));
         due("28 bad", BAD_VALUE, x.chain(0, 4));
