@@ -714,6 +714,18 @@ public final class CallBoundaries extends Checks {
             x.fix(3, true);
             due(3, x.exchange(0, 1));
         });
+        test("12: NOT_POSSIBLE for the country 7 as for the others", () -> {
+            BorderPaints x = map(0, 0, 0, 0, 0, 0, 1, 0);
+            x.setBorder(6, 7, 1);
+            x.fix(7, true);
+            due(NOT_POSSIBLE, x.exchange(6, 0));
+            x.fix(7, false);
+            x.allow(7, 13);
+            due(NOT_POSSIBLE, x.exchange(6, 0));
+            x.allow(7, 2);
+            due(2, x.exchange(6, 0));
+            due(1, x.country(7, 0));
+        });
         test("12: NOT_POSSIBLE if any of the chain may not have the other one of both colours", () -> {
             BorderPaints x = map(0, 1, 0);
             x.setBorder(0, 1, 1);
@@ -1006,6 +1018,14 @@ public final class CallBoundaries extends Checks {
             due(13, x.country(0, 8));
             due(12, x.country(1, 8));
         });
+        test("18: 6, 7 and 8 look at the country 7 too", () -> {
+            BorderPaints x = map(3, 0, 0, 0, 0, 0, 0, 3);
+            x.setBorder(0, 7, 1);
+            due(1, x.country(0, 6));
+            due(1, x.country(0, 7));
+            due(7, x.country(0, 8));
+            due(7, x.country(7, 8));
+        });
         test("18: 8 does not change what is so", () -> {
             BorderPaints x = map(2, 2);
             x.setBorder(0, 1, 1);
@@ -1215,6 +1235,21 @@ public final class CallBoundaries extends Checks {
             x.forbid(0, 0, false);
             due(0, x.wouldCost(0, 1));
         });
+        test("24: in both orders, beside all borders that there are", () -> {
+            BorderPaints x = map(0, 1, 1);
+            x.setBorder(0, 1, 1);
+            x.setBorder(0, 2, 1);
+            x.allow(0, 3);
+            x.allow(1, 3);
+            x.allow(2, 3);
+            due(0, x.leastRepaint(0));
+            due(NOT_POSSIBLE, x.wouldCost(1, 2));
+            due(NOT_POSSIBLE, x.wouldCost(2, 1));
+            x.allow(2, 7);
+            due(1, x.wouldCost(1, 2));
+            due(1, x.wouldCost(2, 1));
+            due(0, x.leastRepaint(0));
+        });
         test("24: if they have one already it is the cost of the least repaint", () -> {
             BorderPaints x = map(0, 0, 1);
             x.setBorder(0, 1, 5);
@@ -1293,6 +1328,18 @@ public final class CallBoundaries extends Checks {
             x.allow(0, 2);
             due(0, x.freedom(0));
         });
+        test("26: what comes after a country that was joined counts", () -> {
+            BorderPaints x = map(0, 0, 0, 0);
+            x.setBorder(0, 3, 1);
+            x.join(0, 3);
+            x.setBorder(1, 2, 1);
+            x.allow(1, 8);
+            due(8, x.freedom(1));
+            due(7, x.freedom(2));
+            x.allow(2, 8);
+            due(0, x.freedom(2));
+            due(0, x.freedom(3));
+        });
         test("26: in any repaint, not only in the least one, also far from what is fixed", () -> {
             BorderPaints x = map(0, 1, 0, 1, 0, 1, 0, 1);
             for (int country = 0; country < 7; country++) {
@@ -1319,6 +1366,26 @@ public final class CallBoundaries extends Checks {
             due(4, x.fewestColours());
             x.allow(3, 9);
             due(3, x.fewestColours());
+        });
+        test("27: the country 7 counts as the others, and those after one that was joined", () -> {
+            BorderPaints x = map(0, 0, 0, 0, 0, 0, 0, 0);
+            x.setBorder(0, 1, 1);
+            x.join(0, 1);
+            due(1, x.fewestColours());
+            x.allow(7, 2);
+            x.allow(6, 13);
+            due(2, x.fewestColours());
+            x.allow(1, 4);
+            x.allow(6, 9);
+            due(3, x.fewestColours());
+        });
+        test("27: a repaint with the highest colour at a country that has neighbours after it", () -> {
+            BorderPaints x = map(0, 0);
+            x.setBorder(0, 1, 1);
+            x.allow(0, 8);
+            due(2, x.fewestColours());
+            due(8, x.freedom(0));
+            due(7, x.freedom(1));
         });
         test("27: of any repaint, not of the least one", () -> {
             BorderPaints x = map(0, 1, 2);
@@ -1394,6 +1461,7 @@ public final class CallBoundaries extends Checks {
         test("29: 8 tells different colours, of countries that are there, 1 to 4", () -> {
             due(4, map(3, 2, 1, 0, 3, 2, 1, 0).count(8));
             due(1, map(3, 3, 3, 3, 3, 3, 3, 3).count(8));
+            due(2, map(0, 0, 0, 0, 0, 0, 0, 3).count(8));
             BorderPaints x = map(0, 1, 1);
             x.setBorder(0, 1, 1);
             due(2, x.count(8));

@@ -749,6 +749,33 @@ public final class TermsBoundaries extends Checks {
         return x;
     }
 
+    /** On a map with a full history, a snapshot of one country, a conflict and a text of one border. */
+    private static void anActRecords(String name, int want, Call act) {
+        test("Each act records the state that was before it: " + name, () -> {
+            BorderPaints x = map(0);
+            x.keep();
+            x.addCountry(0, 1);
+            x.addCountry(2, 1);
+            write(x, "0-1:9");
+            x.setBorder(0, 1, 10);
+            int[] earlier = told(x);
+            x.setBorder(1, 2, 20);
+            int[] before = told(x);
+            due(4, x.count(10));
+            due(want, act.of(x));
+            due(4, x.count(10));
+            due(3, x.undo());
+            before[10] = 3;
+            dueRow(before, told(x));
+            due(want, act.of(x));
+            due(4, x.count(10));
+            due(3, x.undo());
+            due(2, x.undo());
+            earlier[10] = 2;
+            dueRow(earlier, told(x));
+        });
+    }
+
     private static void history() {
         test("A history of at most 4 states is kept", () -> {
             due(0, new BorderPaints().count(10));
@@ -812,6 +839,35 @@ public final class TermsBoundaries extends Checks {
             due(1, x.undo());
             due(15, x.country(0, 1));
         });
+        test("Undo and the snapshot bring back all of 28 borders, the last one too", () -> {
+            BorderPaints x = eight();
+            joinAllByBorders(x, 50);
+            int[] all = borders(x);
+            due(28, all.length);
+            x.keep();
+            due(50, x.setBorder(6, 7, 0));
+            due(0, x.setBorder(6, 7, 2));
+            x.undo();
+            x.undo();
+            dueRow(all, borders(x));
+            for (int other = 0; other < 7; other++) {
+                due(50, x.setBorder(other, 7, 0));
+            }
+            x.restore();
+            dueRow(all, borders(x));
+        });
+        anActRecords("addCountry", 3, x -> x.addCountry(1, 1));
+        anActRecords("paint", 0, x -> x.paint(0, 3));
+        anActRecords("allow", 15, x -> x.allow(0, 3));
+        anActRecords("fix", 1, x -> x.fix(0, true));
+        anActRecords("forbid", 2, x -> x.forbid(0, 2, true));
+        anActRecords("setBorder", 0, x -> x.setBorder(0, 2, 5));
+        anActRecords("readBorders", 1, x -> x.readBorders());
+        anActRecords("join", 1, x -> x.join(0, 1));
+        anActRecords("give", 7, x -> x.give(1, 0, 2, 3));
+        anActRecords("repaint", 1, x -> x.repaint());
+        anActRecords("exchange", 2, x -> x.exchange(0, 3));
+        anActRecords("restore", 1, x -> x.restore());
         test("A call that returns an error records no state", () -> {
             BorderPaints x = map(0);
             x.paint(0, 4);
