@@ -420,6 +420,22 @@ public final class CallBoundaries extends Checks {
             due(1, x.readBorders());
             due(55, x.border(0, 1));
         });
+        test("8: just the borders of the text as it is, whatever was read before", () -> {
+            BorderPaints x = map(0, 1, 2);
+            write(x, "0-1:5,1-2:9,0-2");
+            due(3, x.readBorders());
+            write(x, "0-1:7");
+            x.setBorder(1, 2, 0);
+            due(1, x.readBorders());
+            dueRow(row(1007, 2001), borders(x));
+            x.undo();
+            x.undo();
+            x.undo();
+            x.undo();
+            due(2, x.count(1));
+            due(1, x.readBorders());
+            dueRow(row(1007), borders(x));
+        });
         test("8: this is one act, of 15 borders too", () -> {
             BorderPaints x = map(0, 1, 2, 3);
             x.undo();

@@ -850,6 +850,12 @@ public final class TermsBoundaries extends Checks {
             x.undo();
             x.undo();
             dueRow(all, borders(x));
+            x.setBorder(0, 1, 0);
+            x.setBorder(0, 1, 50);
+            due(1, x.borderAt(27));
+            x.undo();
+            x.undo();
+            dueRow(all, borders(x));
             for (int other = 0; other < 7; other++) {
                 due(50, x.setBorder(other, 7, 0));
             }
